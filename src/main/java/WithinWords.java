@@ -1367,7 +1367,6 @@ public final class WithinWords {
         private final Line[] chosen = new Line[SEVERAL_MOST];
         private final int[] stride = new int[SEVERAL_MOST];
         private final int[] place = new int[SEVERAL_MOST];
-        private final int[] target = new int[SEVERAL_MOST];
         private final int[] stepBy = new int[LETTERS_MOST];
         // Made by the first call that needs it: most objects never do.
         private int[] table;
@@ -1427,23 +1426,29 @@ public final class WithinWords {
                 c++;
             }
             for (int s = 0; s < n; s++) {
-                place[s] = target[s];
+                place[s] = behindNext(s, c);
             }
             return c;
+        }
+
+        // The place behind the next c in one of the words; 0: there is none.
+        private int behindNext(int s, int c) {
+            for (int i = place[s]; i < chosen[s].len; i++) {
+                if (chosen[s].v[i] == c) {
+                    return i + 1;
+                }
+            }
+            return 0;
         }
 
         private boolean leads(int c, int follow) {
             int state = 0;
             for (int s = 0; s < n; s++) {
-                int i = place[s];
-                while (i < chosen[s].len && chosen[s].v[i] != c) {
-                    i++;
-                }
-                if (i == chosen[s].len) {
+                int behind = behindNext(s, c);
+                if (behind == 0) {
                     return false;
                 }
-                target[s] = i + 1;
-                state += target[s] * stride[s];
+                state += behind * stride[s];
             }
             return table[state] == follow;
         }
