@@ -3,6 +3,7 @@ final class SeveralTest {
     public static void main(String[] args) {
         commonPromise();
         coverPromise();
+        longestCover();
         refusals();
         limits();
         Check.end();
@@ -42,6 +43,13 @@ final class SeveralTest {
         cover(x, 64 + 3, "acba");
         cover(x, 16 + 32, "a".repeat(40) + "b".repeat(40));
         cover(x, 32 + 4, "b".repeat(40) + "c");
+    }
+
+    private static void longestCover() {
+        WithinWords x = Play.with(3, "a".repeat(40), "b".repeat(40), "c".repeat(10));
+        cover(x, 7, "a".repeat(40) + "b".repeat(40) + "c".repeat(10));
+        WithinWords y = Play.with(3, "cb".repeat(20), "a".repeat(40), "a".repeat(10));
+        cover(y, 7, "a".repeat(40) + "cb".repeat(20));
     }
 
     private static void refusals() {
