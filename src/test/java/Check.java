@@ -38,6 +38,10 @@ final class Check {
         return wrong;
     }
 
+    static int doneSoFar() {
+        return done;
+    }
+
     static void end() {
         System.out.println(wrong == 0 ? done + " answers as due" : wrong + " of " + done + " answers not as due");
         if (wrong != 0) {
