@@ -38,8 +38,8 @@ final class ChanceEdges {
     }
 
     private static void twinsFirst() {
-        Scene.with(2, "baab", "ba").answers("twins(0, 1, 5)", 6, "LETTERS 5", "aabb", "twins(0, 2, 5)", 2, "LETTERS 5",
-                "abba", "twins(0, 3, 5)", 1, "LETTERS 5", "baab", "twins(1, 3, 5)", 4, "LETTERS 5", "aa");
+        Scene.with(2, "baab", "ba").answers("twins(0, 1, 5)", 6, "LETTERS 5", "aabb", "twins(0, 2, 5)", 2,
+                "LETTERS 5", "abba", "twins(0, 3, 5)", 1, "LETTERS 5", "baab", "twins(1, 3, 5)", 4, "LETTERS 5", "aa");
         Scene.full().answers("twins(5, 1, 0)", 1, "ROW 0", "", "count(1)", 6, "many()", 3, "asked()", -6);
         Scene.with(1, A40).answers("twins(0, 3, 0)", 1, "LETTERS 0", A40);
         Scene.holed().answers("twins(6, 1, 1)", 1, "LETTERS 1", "ccc", "count(1)", 4);

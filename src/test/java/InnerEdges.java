@@ -32,18 +32,22 @@ final class InnerEdges {
         Sentence.of(32, "how many there are told by many().", InnerEdges::absentMany);
         Sentence.of(32, "BAD", InnerEdges::absentBad);
         Sentence.of(32, "NOTHING.", InnerEdges::absentNothing);
-        Sentence.of(33, "How many LETTERS behind a WORD it takes at least, so that all words of d (0 .. 40) LETTERS STAND IN it.",
-                InnerEdges::added);
+        Sentence.of(33, "How many LETTERS behind a WORD it takes at least, so that all words of d (0 .. 40) LETTERS"
+                + " STAND IN it.", InnerEdges::added);
         Sentence.of(33, "BAD", InnerEdges::addedBad);
         Sentence.of(33, "NOTHING.", InnerEdges::addedNothing);
     }
 
     private static void inner() {
-        Scene.full().answers("inner(0, 0)", 1, "many()", 1, "inner(0, 1)", 1, "many()", 3, "inner(0, 5)", 1, "many()", 1,
-                "inner(0, 6)", 1, "many()", 0, "inner(0, 40)", 1, "many()", 0);
-        Scene.full().answers("inner(5, 0)", 1, "many()", 1, "inner(5, 1)", 1, "many()", 0, "inner(5, 40)", 1, "many()", 0);
+        Scene.full().answers("inner(0, 0)", 1, "many()", 1, "inner(0, 1)", 1, "many()", 3, "inner(0, 5)", 1,
+                "many()", 1, "inner(0, 6)", 1, "many()", 0, "inner(0, 40)", 1, "many()", 0);
+        Scene.full().answers("inner(5, 0)", 1, "many()", 1, "inner(5, 1)", 1, "many()", 0, "inner(5, 40)", 1,
+                "many()", 0);
         Scene.with(1, A40).answers("inner(0, 0)", 1, "many()", 1, "inner(0, 39)", 1, "many()", 1, "inner(0, 40)", 1,
                 "many()", 1);
+        Scene.with(1, A40, "aa", "").answers("inner(0, 0)", 1, "many()", 1, "inner(0, 0)", 1, "many()", 1,
+                "inner(1, 3)", 1, "many()", 0, "inner(1, 40)", 1, "many()", 0, "inner(2, 1)", 1, "many()", 0,
+                "inner(0, 40)", 1, "many()", 1);
         Scene.with(6, RICH).answers("inner(0, 40)", 1, "many()", 1, "inner(0, 39)", 1, "many()", 40, "inner(0, 1)", 1,
                 "many()", 6, "inner(0, 6)", 1, "many()", 46656);
     }
@@ -133,8 +137,8 @@ final class InnerEdges {
         Scene.full().answers("byRank(0, 5, 0, 3)", 5, "LETTERS 3", "abcab");
         Scene.full().answers("byRank(0, 3, 0, 3)", 3, "LETTERS 3", "aab", "byRank(0, 3, 9, 3)", 3, "LETTERS 3", "cab");
         Scene.with(1, A40).answers("byRank(0, 40, 0, 5)", 40, "LETTERS 5", A40);
-        Scene.with(6, RICH).answers("byRank(0, 20, 2147483647, 5)", 20, "word(1, 5)", 20, "rank(0, 1)", 1, "many()",
-                Integer.MAX_VALUE);
+        Scene.with(6, RICH).answers("byRank(0, 20, 2147483647, 5)", 20, "word(1, 5)", 20, "rank(0, 1)", 1,
+                "many()", Integer.MAX_VALUE);
     }
 
     private static void byRankToRow() {
@@ -209,8 +213,8 @@ final class InnerEdges {
 
     private static void absentLength() {
         Scene.full().answers("absent(5, 0)", 1, "absent(0, 0)", 2, "absent(1, 0)", 1);
-        Scene.with(1, A40, A40.substring(1), "", "a").answers("absent(0, 0)", 41, "absent(1, 0)", 40, "absent(2, 0)", 1,
-                "absent(3, 0)", 2);
+        Scene.with(1, A40, A40.substring(1), "", "a").answers("absent(0, 0)", 41, "absent(1, 0)", 40,
+                "absent(2, 0)", 1, "absent(3, 0)", 2);
         Scene.with(6, RICH, "abcde").answers("absent(0, 0)", 7, "absent(1, 0)", 1);
     }
 
@@ -222,6 +226,8 @@ final class InnerEdges {
         Scene.with(3, "abcabc", "abccba").answers("absent(0, 0)", 3, "LETTERS 0", "aaa", "absent(1, 0)", 3,
                 "LETTERS 0", "aaa");
         Scene.with(3, "aabaac").answers("absent(0, 0)", 2, "LETTERS 0", "bb");
+        Scene.with(2, "aab", "bba", "abba").answers("absent(0, 0)", 2, "LETTERS 0", "ba", "absent(1, 0)", 2,
+                "LETTERS 0", "aa", "absent(2, 0)", 3, "LETTERS 0", "aaa");
         Scene.holed().answers("absent(0, 1)", 2, "LETTERS 1", "cc", "count(1)", 4);
     }
 

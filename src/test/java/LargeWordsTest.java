@@ -193,8 +193,9 @@ final class LargeWordsTest {
 
     private void ranks(int k) {
         String w = randomWord(k, 40);
-        WithinWords x = Play.with(k, w);
         for (int n = 0; n <= 40; n += 1 + random.nextInt(4)) {
+            // A new object each time: nothing is promised beyond 512 calls.
+            WithinWords x = Play.with(k, w);
             x.inner(0, n);
             long many = x.many();
             String before = "";

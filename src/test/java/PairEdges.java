@@ -23,8 +23,8 @@ final class PairEdges {
     private static void alike() {
         Scene.full().answers("alike(0, 6, 0)", 1, "alike(0, 6, 1)", 0, "alike(0, 5, 0)", 1, "alike(5, 0, 1)", 0);
         Scene.full().answers("alike(0, 0, 40)", 1, "alike(5, 5, 40)", 1, "alike(5, 5, 0)", 1);
-        Scene.with(1, A40, A40.substring(1), A40).answers("alike(0, 1, 39)", 1, "alike(0, 1, 40)", 0, "alike(1, 0, 39)",
-                1, "alike(1, 0, 40)", 0, "alike(0, 2, 40)", 1);
+        Scene.with(1, A40, A40.substring(1), A40).answers("alike(0, 1, 39)", 1, "alike(0, 1, 40)", 0,
+                "alike(1, 0, 39)", 1, "alike(1, 0, 40)", 0, "alike(0, 2, 40)", 1);
         Scene.with(2, "abab", "abba").answers("alike(0, 1, 2)", 1, "alike(0, 1, 3)", 0, "alike(0, 1, 4)", 0,
                 "alike(0, 1, 40)", 0);
         Scene.with(6, "abcdef", "abcde").answers("alike(0, 1, 0)", 1, "alike(0, 1, 1)", 0);
@@ -91,6 +91,9 @@ final class PairEdges {
         Scene.full().answers("both(0, 6)", 1, "many()", 2, "both(1, 1)", 1, "many()", 4);
         Scene.with(2, A40, A40.substring(1), "b").answers("both(0, 0)", 1, "many()", 41, "both(0, 1)", 1, "many()", 40,
                 "both(1, 0)", 1, "many()", 40, "both(0, 2)", 1, "many()", 1);
+        Scene.with(2, "abab", "b", "ab").answers("inner(0, -9)", 1, "many()", 12, "both(1, 0)", 1, "many()", 2,
+                "inner(0, -9)", 1, "many()", 12, "both(0, 1)", 1, "many()", 2, "parting(0, 1, 0)", 1, "both(2, 1)", 1,
+                "many()", 2);
         String rich = "abc".repeat(13) + "a";
         WithinWords x = Play.with(3, rich);
         Check.due("28: inner(0, -9)", x.inner(0, WithinWords.NONE), 1);

@@ -31,7 +31,8 @@ final class Play {
 
     static String read(WithinWords x, int w) {
         StringBuilder letters = new StringBuilder();
-        for (int i = 0; i < x.size(w); i++) {
+        int size = x.size(w);
+        for (int i = 0; i < size; i++) {
             letters.append((char) ('a' + x.letter(w, i)));
         }
         return letters.toString();

@@ -76,6 +76,7 @@ final class Sentence {
                 }
             }
         }
-        Check.due(name + ": words without a test of their own", left.toString().replaceAll("[^A-Za-z0-9]+", " ").trim(), "");
+        String untested = left.toString().replaceAll("[^A-Za-z0-9]+", " ").trim();
+        Check.due(name + ": words without a test of their own", untested, "");
     }
 }

@@ -114,11 +114,15 @@ final class SeveralEdges {
     }
 
     private static void cover() {
-        Scene.full().answers("cover(1, 0)", 5, "cover(32, 0)", 0, "cover(33, 0)", 5, "cover(3, 0)", 5, "cover(65, 0)", 7);
+        Scene.full().answers("cover(1, 0)", 5, "cover(32, 0)", 0, "cover(33, 0)", 5, "cover(3, 0)", 5,
+                "cover(65, 0)", 7);
         Scene.with(3, A40, B40, "c".repeat(10), "").answers("cover(1, 0)", 40, "cover(3, 0)", 80, "cover(7, 0)", 90,
                 "cover(15, 0)", 90, "cover(8, 0)", 0);
         Scene.with(6, "f", "ef", "def", "cdef").answers("cover(15, 0)", 4, "LETTERS 0", "cdef");
-        Scene.with(3, "ab", "ba", "c").answers("cover(3, 0)", 3, "LETTERS 0", "aba", "cover(7, 0)", 4, "LETTERS 0", "abac");
+        Scene.with(2, "ba", "a", "bab").answers("cover(3, 0)", 2, "LETTERS 0", "ba", "cover(6, 0)", 3,
+                "LETTERS 0", "bab");
+        Scene.with(3, "ab", "ba", "c").answers("cover(3, 0)", 3, "LETTERS 0", "aba", "cover(7, 0)", 4,
+                "LETTERS 0", "abac");
     }
 
     private static void coverToRow() {

@@ -6,6 +6,7 @@ final class SeveralTest {
         longestCover();
         refusals();
         limits();
+        farBeyondLimits();
         Check.end();
     }
 
@@ -91,6 +92,10 @@ final class SeveralTest {
         Check.due("36: 24 x 34 x 25 = 20400", x.common(layWords(x, 23, 33, 24), 0), WithinWords.SPENT);
         Check.due("36: 3 x 23 x 29 x 10 = 20010", x.common(layWords(x, 2, 22, 28, 9), 0), WithinWords.SPENT);
         Check.due("37: 3 x 23 x 29 x 10 = 20010", x.cover(15, 0), WithinWords.SPENT);
+    }
+
+    private static void farBeyondLimits() {
+        WithinWords x = new WithinWords();
         Check.due("36: four of 40", x.common(layWords(x, 40, 40, 40, 40), 0), WithinWords.SPENT);
         Check.due("37: four of 40", x.cover(15, 0), WithinWords.SPENT);
         Check.due("36: two of 40", x.common(3, 0), 40);

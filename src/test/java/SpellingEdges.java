@@ -152,7 +152,11 @@ final class SpellingEdges {
         faulty("((((a))((b)(b(", 13);
     }
 
+    /** A text that ended too early leaves nothing behind for the next one. */
     private static void earlyEnd() {
+        Scene.bare().text(0, "(((a").text(1, "a)").text(2, "2").text(3, "((((a))))").answers("fault(0)", 4,
+                "fault(1)", 1, "fault(0)", 4, "fault(2)", 0, "fault(0)", 4, "fault(3)", NONE,
+                "tell(0, 0)", WithinWords.STATE, "tell(0, 3)", 1, "WORD 0", "a");
         faulty("(", 1);
         faulty("(a", 2);
         faulty("((((a)))", 8);

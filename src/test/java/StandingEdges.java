@@ -79,8 +79,10 @@ final class StandingEdges {
         Scene.full().answers("way(0, 5, 0, false)", 0, "ROW 0", "");
         Scene.full().answers("way(0, 5, 0, true)", 0, "ROW 0", "");
         Scene.full().answers("way(5, 5, 0, true)", 0, "ROW 0", "");
-        Scene.with(1, A40).answers("way(0, 0, 5, false)", 40, "at(5, 0)", 1, "asked()", 0, "at(5, 39)", 1, "asked()", 39);
-        Scene.with(1, A40).answers("way(0, 0, 5, true)", 40, "at(5, 0)", 1, "asked()", 0, "at(5, 39)", 1, "asked()", 39);
+        Scene.with(1, A40).answers("way(0, 0, 5, false)", 40, "at(5, 0)", 1, "asked()", 0, "at(5, 39)", 1,
+                "asked()", 39);
+        Scene.with(1, A40).answers("way(0, 0, 5, true)", 40, "at(5, 0)", 1, "asked()", 0, "at(5, 39)", 1,
+                "asked()", 39);
         Scene.full().answers("way(0, 1, 3, true)", 2, "many()", 3, "asked()", -6);
     }
 
@@ -166,6 +168,8 @@ final class StandingEdges {
         for (int[] row : none) {
             Scene.full().row(0, row).answers("judge(0, 1, 0)", 0);
         }
+        Scene.with(2, "aab", "aa").row(0, 0, 0).answers("judge(0, 1, 0)", 0, "lay(0, 0, 1)", 1, "judge(0, 1, 0)", 0,
+                "lay(0, 1, 1)", 1, "judge(0, 1, 0)", 0, "lay(0, 0, 0)", 1, "judge(0, 1, 0)", 1);
         Scene.full().answers("judge(0, 5, 3)", 1, "judge(5, 5, 3)", 1, "judge(0, 5, 4)", 0, "judge(5, 1, 3)", 0);
         Scene.with(1, A40).does("way(0, 0, 0, false)").answers("judge(0, 0, 0)", 1, "lay(0, 39, 40)", 1,
                 "judge(0, 0, 0)", 0);
@@ -193,6 +197,8 @@ final class StandingEdges {
         Scene.full().answers("bar(0, 1)", 2, "bar(0, 0)", 1, "bar(0, 6)", 0, "bar(1, 0)", 0, "bar(5, 1)", 0);
         Scene.with(2, A40, "a", "aa", "b").answers("bar(0, 1)", 40, "bar(0, 2)", 39, "bar(0, 0)", 1, "bar(0, 3)", 0,
                 "bar(1, 1)", 1, "bar(1, 2)", 0);
+        Scene.with(2, "aab", "abb", "aabb", "abab", "ab").answers("bar(0, 4)", 1, "bar(1, 4)", 1, "bar(2, 4)", 2,
+                "bar(3, 4)", 2, "bar(4, 4)", 1, "bar(2, 2)", 1, "bar(0, 4)", 1);
         Scene.full().answers("bar(0, 1)", 2, "many()", 3, "WORD 0", "abcab");
     }
 

@@ -1,4 +1,7 @@
+import java.util.List;
 import java.util.Random;
+import java.util.Set;
+import java.util.TreeSet;
 
 /** 'Terms' but for what it says of TEXTS (see SpellingEdges), sentence by sentence. */
 final class TermEdges {
@@ -11,7 +14,7 @@ final class TermEdges {
      * h how, d a depth or length, e such a one of a TWIN, m LETTERS by chance, f a FINDING, c what is
      * counted, g a KIND but 0, s a set, o a RANK, x a row's size, y a text's size; . anything, b true or false.
      */
-    private static final String[] SHAPES = {"row r x", "lay r . .", "at r .", "tear r", "copy r . r . .", "mean r",
+    static final String[] SHAPES = {"row r x", "lay r . .", "at r .", "tear r", "copy r . r . .", "mean r",
         "text t y", "put t . .", "letters k", "word w r", "fault t", "tell w t", "join w w w", "part w w . .",
         "turn w w h", "drop w w d", "erase w", "size w", "letter w .", "kind w", "mark w g", "ways w w",
         "way w w r b", "places w w b", "judge w w r", "bar w w", "inner w d", "rank w w", "byRank w d o r",
@@ -61,7 +64,8 @@ final class TermEdges {
     }
 
     private static void termsOfWords() {
-        term("2 A WORD v STANDS IN a WORD w by a WAY: rising places of w, one for each LETTER of v, alike.", TermEdges::way);
+        term("2 A WORD v STANDS IN a WORD w by a WAY: rising places of w, one for each LETTER of v, alike.",
+                TermEdges::way);
         term("(Of none: one WAY.)", TermEdges::wayOfNone);
         term("INNER words of w are all unlike words that STAND IN it;", TermEdges::inner);
         term("RANK of one: its number among the INNER ones of its length, FIRST 0.", TermEdges::rank);
@@ -69,7 +73,8 @@ final class TermEdges {
                 + " as often as can be;", TermEdges::arches);
         term("REST is what is behind the last.", TermEdges::rest);
         term("ABSENT are words that do not STAND IN it; the shortest are ARCHES and 1 long.", TermEdges::absent);
-        term("ALIKE to a depth d are two WORDS, if the same words of at most d LETTERS STAND IN both.", TermEdges::alike);
+        term("ALIKE to a depth d are two WORDS, if the same words of at most d LETTERS STAND IN both.",
+                TermEdges::alike);
         term("PARTING is the shortest word that STANDS IN just one of both, the FIRST.", TermEdges::parting);
         term("DROPPED to a depth: from the first place on: is the WORD without that LETTER still ALIKE to a depth"
                 + " with what it was at first, the LETTER goes, and one looks at the next one, which stands there then;"
@@ -217,7 +222,8 @@ final class TermEdges {
     }
 
     private static Scene spentScene() {
-        return SeveralEdges.ofSizes(40, 40, 40, 0).does("letters(2)", "ways(0, 3)", "odds(0, 3)").text(0, "(").row(0, 7);
+        Scene scene = SeveralEdges.ofSizes(40, 40, 40, 0).does("letters(2)", "ways(0, 3)", "odds(0, 3)");
+        return scene.text(0, "(").row(0, 7);
     }
 
     private static void nothing() {
@@ -279,9 +285,9 @@ final class TermEdges {
     }
 
     private static void rowsAndTexts() {
-        Scene.bare().answers("count(1)", 0, "count(2)", 0, "row(0, 0)", 0, "row(5, 40)", 40, "row(6, 0)", -1, "row(-1, 0)",
-                -1, "row(1, 41)", -1, "count(1)", 2, "text(0, 0)", 0, "text(3, 60)", 60, "text(4, 0)", -1, "text(-1, 0)", -1,
-                "text(1, 61)", -1, "count(2)", 2);
+        Scene.bare().answers("count(1)", 0, "count(2)", 0, "row(0, 0)", 0, "row(5, 40)", 40, "row(6, 0)", -1,
+                "row(-1, 0)", -1, "row(1, 41)", -1, "count(1)", 2, "text(0, 0)", 0, "text(3, 60)", 60,
+                "text(4, 0)", -1, "text(-1, 0)", -1, "text(1, 61)", -1, "count(2)", 2);
     }
 
     private static void letters() {
@@ -290,31 +296,34 @@ final class TermEdges {
     }
 
     private static void words() {
-        Scene.bare().answers("count(3)", 0, "row(0, 0)", 0, "word(0, 0)", 0, "row(0, 40)", 40, "word(7, 0)", 40, "word(8, 0)",
-                -1, "word(-1, 0)", -1, "count(3)", 2, "size(0)", 0, "size(7)", 40, "kind(0)", 0, "join(0, 7, 0)", 40,
-                "join(0, 7, 0)", -2);
+        Scene.bare().answers("count(3)", 0, "row(0, 0)", 0, "word(0, 0)", 0, "row(0, 40)", 40, "word(7, 0)", 40,
+                "word(8, 0)", -1, "word(-1, 0)", -1, "count(3)", 2, "size(0)", 0, "size(7)", 40, "kind(0)", 0,
+                "join(0, 7, 0)", 40, "join(0, 7, 0)", -2);
     }
 
     private static void kinds() {
-        Scene.full().answers("kind(0)", 0, "kind(2)", 1, "kind(3)", 2, "kind(4)", 3, "kind(7)", 4, "part(0, 0, 0, 1)", 1,
-                "kind(0)", 2);
+        Scene.full().answers("kind(0)", 0, "kind(2)", 1, "kind(3)", 2, "kind(4)", 3, "kind(7)", 4,
+                "part(0, 0, 0, 1)", 1, "kind(0)", 2);
         Scene.full().answers("mark(3, 2)", 1, "mark(4, 2)", 3, "mark(7, 2)", 0, "mark(0, 2)", -3, "mark(2, 2)", -3);
     }
 
     private static void way() {
-        Scene.full().row(0, 0, 1).answers("judge(0, 1, 0)", 1, "lay(0, 0, 1)", 1, "judge(0, 1, 0)", 0, "lay(0, 0, 3)", 1,
-                "judge(0, 1, 0)", 0, "lay(0, 1, 4)", 1, "judge(0, 1, 0)", 1, "lay(0, 1, 2)", 1, "judge(0, 1, 0)", 0);
+        Scene.full().row(0, 0, 1).answers("judge(0, 1, 0)", 1, "lay(0, 0, 1)", 1, "judge(0, 1, 0)", 0,
+                "lay(0, 0, 3)", 1, "judge(0, 1, 0)", 0, "lay(0, 1, 4)", 1, "judge(0, 1, 0)", 1, "lay(0, 1, 2)", 1,
+                "judge(0, 1, 0)", 0);
         Scene.with(2, "abb", "bb", "bbb", "ba").answers("ways(0, 1)", 1, "many()", 1, "ways(0, 2)", 0, "ways(0, 3)", 0);
     }
 
     private static void wayOfNone() {
         Scene.full().answers("ways(0, 5)", 1, "many()", 1, "ways(5, 5)", 1, "many()", 1, "way(0, 5, 0, false)", 0,
-                "judge(0, 5, 0)", 1, "places(0, 5, true)", 0, "rank(0, 5)", 1, "odds(0, 5)", 1, "upper()", 1, "lower()", 1);
+                "judge(0, 5, 0)", 1, "places(0, 5, true)", 0, "rank(0, 5)", 1, "odds(0, 5)", 1, "upper()", 1,
+                "lower()", 1);
     }
 
     private static void inner() {
-        Scene.with(2, "aab", "").answers("inner(0, -9)", 1, "many()", 6, "inner(0, 0)", 1, "many()", 1, "inner(0, 1)", 1,
-                "many()", 2, "inner(0, 2)", 1, "many()", 2, "inner(0, 3)", 1, "many()", 1, "inner(1, -9)", 1, "many()", 1);
+        Scene.with(2, "aab", "").answers("inner(0, -9)", 1, "many()", 6, "inner(0, 0)", 1, "many()", 1,
+                "inner(0, 1)", 1, "many()", 2, "inner(0, 2)", 1, "many()", 2, "inner(0, 3)", 1, "many()", 1,
+                "inner(1, -9)", 1, "many()", 1);
     }
 
     private static void rank() {
@@ -329,19 +338,20 @@ final class TermEdges {
     }
 
     private static void rest() {
-        Scene.with(3, "aabca", "aabc", "aab", "", "abccb").answers("arches(0)", 1, "asked()", 1, "arches(1)", 1, "asked()",
-                0, "arches(2)", 0, "asked()", 3, "arches(3)", 0, "asked()", 0, "arches(4)", 1, "asked()", 2);
+        Scene.with(3, "aabca", "aabc", "aab", "", "abccb").answers("arches(0)", 1, "asked()", 1, "arches(1)", 1,
+                "asked()", 0, "arches(2)", 0, "asked()", 3, "arches(3)", 0, "asked()", 0, "arches(4)", 1, "asked()", 2);
     }
 
     private static void absent() {
-        Scene.with(3, "aabca", "aab", "", "abccba").answers("absent(0, 0)", 2, "LETTERS 0", "bb",
-                "absent(1, 0)", 1, "LETTERS 0", "c", "absent(2, 0)", 1, "LETTERS 0", "a", "absent(3, 0)", 3);
+        Scene.with(3, "aabca", "aab", "", "abccba").answers("absent(0, 0)", 2, "LETTERS 0", "bb", "absent(1, 0)", 1,
+                "LETTERS 0", "c", "absent(2, 0)", 1, "LETTERS 0", "a", "absent(3, 0)", 3);
         Scene.with(1, A40).answers("arches(0)", 40, "absent(0, 0)", 41);
     }
 
     private static void alike() {
         Scene.with(2, "ab", "ba", "aab", "").answers("alike(0, 1, 1)", 1, "alike(0, 1, 2)", 0, "alike(0, 2, 1)", 1,
-                "alike(0, 2, 2)", 0, "alike(0, 2, 3)", 0, "alike(0, 3, 0)", 1, "alike(0, 3, 1)", 0, "alike(0, 0, 40)", 1);
+                "alike(0, 2, 2)", 0, "alike(0, 2, 3)", 0, "alike(0, 3, 0)", 1, "alike(0, 3, 1)", 0,
+                "alike(0, 0, 40)", 1);
     }
 
     private static void parting() {
@@ -353,20 +363,70 @@ final class TermEdges {
     /** To 1 aba could lose either end, but the first place is looked at first; aabb to 2 can lose none. */
     private static void dropped() {
         Scene.with(2, "aba", "baa", "aabb", "abab", "ababab", "").answers("drop(7, 0, 1)", 2, "WORD 7", "ba",
-                "drop(7, 1, 1)", 2, "WORD 7", "ba", "drop(7, 2, 1)", 2, "WORD 7", "ab", "drop(7, 2, 2)", 4, "WORD 7",
-                "aabb", "drop(7, 3, 2)", 4, "WORD 7", "abab", "drop(7, 4, 2)", 4, "WORD 7", "abab", "drop(7, 5, 2)", 0);
+                "drop(7, 1, 1)", 2, "WORD 7", "ba", "drop(7, 2, 1)", 2, "WORD 7", "ab", "drop(7, 2, 2)", 4,
+                "WORD 7", "aabb", "drop(7, 3, 2)", 4, "WORD 7", "abab", "drop(7, 4, 2)", 4, "WORD 7", "abab",
+                "drop(7, 5, 2)", 0);
         Scene.with(1, "aaa").answers("drop(7, 0, 2)", 2, "WORD 7", "aa", "drop(7, 0, 3)", 3, "drop(7, 0, 0)", 0);
+        Scene.with(1, "aaaa", "aa").answers("drop(7, 0, 1)", 1, "drop(7, 1, 2)", 2, "drop(7, 0, 3)", 3,
+                "drop(7, 1, 2)", 2);
+        droppedAsTold(2, 8);
+        droppedAsTold(3, 5);
+    }
+
+    /** All words of this size, to each depth, as the sentence goes. */
+    private static void droppedAsTold(int k, int size) {
+        int all = (int) Math.pow(k, size);
+        for (int number = 0; number < all; number++) {
+            StringBuilder word = new StringBuilder();
+            for (int i = 0, left = number; i < size; i++, left /= k) {
+                word.append((char) ('a' + left % k));
+            }
+            WithinWords x = Play.with(k, word.toString());
+            for (int d = 0; d <= 4; d++) {
+                String due = dropByTerms(word.toString(), d);
+                Check.due(Sentence.label() + word + " to " + d, x.drop(7, 0, d), due.length());
+                Check.due(Sentence.label() + word + " to " + d, Play.read(x, 7), due);
+            }
+        }
+    }
+
+    private static String dropByTerms(String word, int d) {
+        Set<String> atFirst = innerTo(word, d);
+        StringBuilder left = new StringBuilder(word);
+        int i = 0;
+        while (i < left.length()) {
+            if (innerTo(new StringBuilder(left).deleteCharAt(i).toString(), d).equals(atFirst)) {
+                left.deleteCharAt(i);
+            } else {
+                i++;
+            }
+        }
+        return left.toString();
+    }
+
+    private static Set<String> innerTo(String word, int d) {
+        Set<String> inner = new TreeSet<>();
+        inner.add("");
+        for (char c : word.toCharArray()) {
+            for (String begun : List.copyOf(inner)) {
+                if (begun.length() < d) {
+                    inner.add(begun + c);
+                }
+            }
+        }
+        return inner;
     }
 
     private static void common() {
-        Scene.with(3, "abc", "bca", "cab", "bbc", "c").answers("common(1, 0)", 3, "LETTERS 0", "abc", "common(3, 0)", 2,
-                "LETTERS 0", "bc", "common(7, 0)", 1, "LETTERS 0", "a", "common(15, 0)", 1, "LETTERS 0", "b",
-                "common(30, 0)", 1, "LETTERS 0", "c", "common(31, 0)", -1);
+        Scene.with(3, "abc", "bca", "cab", "bbc", "c").answers("common(1, 0)", 3, "LETTERS 0", "abc",
+                "common(3, 0)", 2, "LETTERS 0", "bc", "common(7, 0)", 1, "LETTERS 0", "a", "common(15, 0)", 1,
+                "LETTERS 0", "b", "common(30, 0)", 1, "LETTERS 0", "c", "common(31, 0)", -1);
     }
 
     private static void cover() {
         Scene.with(3, "abc", "bca", "cab", "bbc", "c").answers("cover(1, 0)", 3, "LETTERS 0", "abc", "cover(3, 0)", 4,
-                "LETTERS 0", "abca", "cover(7, 0)", 5, "LETTERS 0", "abcab", "cover(30, 0)", 5, "LETTERS 0", "bbcab", "cover(31, 0)", -1);
+                "LETTERS 0", "abca", "cover(7, 0)", 5, "LETTERS 0", "abcab", "cover(30, 0)", 5, "LETTERS 0", "bbcab",
+                "cover(31, 0)", -1);
     }
 
     private static void severalSpent() {
@@ -375,8 +435,8 @@ final class TermEdges {
     }
 
     private static void twins() {
-        Scene.with(2, "abba", "ab").answers("twins(0, 1, 0)", 6, "twins(0, 2, 0)", 2, "LETTERS 0", "abba", "twins(0, 3, 0)", 1,
-                "twins(1, 3, 0)", 4, "LETTERS 0", "aa");
+        Scene.with(2, "abba", "ab").answers("twins(0, 1, 0)", 6, "twins(0, 2, 0)", 2, "LETTERS 0", "abba",
+                "twins(0, 3, 0)", 1, "twins(1, 3, 0)", 4, "LETTERS 0", "aa");
         Scene.with(2, "ab").does("letters(3)").answers("twins(0, 1, 0)", 2, "twins(0, 3, 0)", 9);
     }
 

@@ -40,14 +40,12 @@ final class ToldBackTest {
     private static void twinsSpent() {
         int[] longest = {40, 13, 8, 6, 5, 5};
         for (int k = 1; k <= 6; k++) {
-            WithinWords x = new WithinWords();
-            x.letters(k);
             for (int n = 0; n <= 40; n++) {
-                Play.word(x, 0, "a".repeat(n));
+                WithinWords x = Play.with(k, "a".repeat(n));
                 int want = n <= longest[k - 1] ? 1 : WithinWords.SPENT;
                 Check.due("39: " + k + " letters, size " + n, x.twins(0, 1, 0), want);
+                Check.due("39: NOTHING ahead of SPENT", x.twins(1, 1, 0), WithinWords.FINDING);
             }
-            Check.due("39: NOTHING ahead of SPENT", x.twins(1, 1, 0), WithinWords.FINDING);
         }
         WithinWords x = Play.with(1, "a".repeat(40));
         twins(x, 0, 3, 1, "a".repeat(40));

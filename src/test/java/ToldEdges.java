@@ -43,11 +43,7 @@ final class ToldEdges {
             Scene.holed().answers(call, Calls.answer(Scene.holed().make(), call), "asked()", -6);
         }
         Scene.full().finds("mean(3)", 4);
-        Scene.full().answers("at(1, 0)", 1, "asked()", 5, "asked()", 5, "digest()", digestAfterAt(), "asked()", 5);
-    }
-
-    private static long digestAfterAt() {
-        return Scene.full().make().digest();
+        Scene.full().answers("at(1, 0)", 1, "asked()", 5, "count(1)", 6, "asked()", 5);
     }
 
     private static void many() {
@@ -73,7 +69,8 @@ final class ToldEdges {
     }
 
     private static void upper() {
-        Scene.full().answers("upper()", 3, "odds(0, 6)", 1, "upper()", 0, "byChance(1, 3)", 1, "upper()", 7, "upper()", 7);
+        Scene.full().answers("upper()", 3, "odds(0, 6)", 1, "upper()", 0, "byChance(1, 3)", 1, "upper()", 7,
+                "upper()", 7);
         Scene.full().answers("odds(1, 0)", -3, "upper()", 3, "byChance(8, 0)", -1, "upper()", 3);
     }
 
@@ -103,8 +100,8 @@ final class ToldEdges {
     }
 
     private static void finding() {
-        Scene.full().answers("finding()", 3, "at(0, 3)", -3, "finding()", 2, "row(0, -1)", -3, "finding()", 5, "mean(3)", -3,
-                "finding()", 4, "erase(0)", 1, "size(0)", -3, "finding()", 1, "finding()", 1);
+        Scene.full().answers("finding()", 3, "at(0, 3)", -3, "finding()", 2, "row(0, -1)", -3, "finding()", 5,
+                "mean(3)", -3, "finding()", 4, "erase(0)", 1, "size(0)", -3, "finding()", 1, "finding()", 1);
         Scene.full().answers("size(8)", -1, "finding()", 3, "letters(1)", -4, "finding()", 3, "way(0, 6, 0, true)", -9,
                 "finding()", 3, "size(0)", 5, "finding()", 3);
     }
@@ -130,56 +127,54 @@ final class ToldEdges {
         Scene.bare().refuses("findings(6)", BAD);
     }
 
-    /** The digest of an object of three letters with these counts, of which no more is there than told. */
-    private static long mixed(long... values) {
+    /** The digest of these numbers, written with blanks; "6x-1" is -1 six times. */
+    private static long mixed(String numbers) {
         long h = 17;
-        for (long v : values) {
-            h = 31 * h + v;
+        for (String told : numbers.split(" ")) {
+            String[] parts = told.split("x");
+            int times = parts.length == 1 ? 1 : Integer.parseInt(parts[0]);
+            for (int i = 0; i < times; i++) {
+                h = 31 * h + Long.parseLong(parts[parts.length - 1]);
+            }
         }
         return h;
     }
 
+    private static void digests(Scene scene, String numbers) {
+        scene.answers("digest()", mixed(numbers));
+    }
+
     private static void digestCounts() {
-        Scene.bare().answers("digest()", mixed(3, 0, 0, 0, 0, 0, -1, -1, -1, -1, -1, -1, -1, -1, -1, -1, -1, -1, -1, -1,
-                -1, -1, -1, -1));
-        Scene.bare().answers("letters(6)", 3, "digest()", mixed(6, 0, 0, 0, 0, 0, -1, -1, -1, -1, -1, -1, -1, -1, -1, -1,
-                -1, -1, -1, -1, -1, -1, -1, -1));
-        Scene.with(3, "b").does("turn(7, 0, 0)", "row(5, 1)", "text(3, 1)").answers("digest()", mixed(3, 1, 1, 2, 1, 2,
-                0, 0, 1, 1, -1, -1, -1, -1, -1, -1, 3, 0, 1, 1, -1, -1, -1, -1, -1, 1, 0, -1, -1, -1, 1, 32));
+        digests(Scene.bare(), "3 5x0 8x-1 6x-1 4x-1");
+        digests(Scene.with(6), "6 5x0 8x-1 6x-1 4x-1");
+        digests(Scene.with(3, "b").does("turn(7, 0, 0)", "row(5, 1)", "text(3, 1)"),
+                "3 1 1 2 1 2 0 0 1 1 6x-1 3 0 1 1 5x-1 1 0 3x-1 1 32");
     }
 
     private static void digestMissing() {
-        Scene.with(3, "", "").does("erase(0)").answers("digest()", mixed(3, 0, 0, 1, 0, 0, -1, 0, 0, 0, -1, -1, -1, -1, -1,
-                -1, -1, -1, -1, -1, -1, -1, -1, -1, -1, -1));
+        digests(Scene.with(3, "", "").does("erase(0)"), "3 0 0 1 0 0 -1 0 0 0 6x-1 6x-1 4x-1");
+        digests(Scene.with(3, "c").does("turn(0, 0, 1)", "erase(0)"), "3 5x0 8x-1 6x-1 4x-1");
     }
 
     private static void digestWords() {
-        Scene scene = Scene.with(3, "ca").text(0, " b ").does("tell(1, 0)", "join(2, 1, 0)", "turn(3, 0, 1)", "drop(4, 2, 40)",
-                "part(5, 4, 0, 0)", "turn(6, 5, 0)", "drop(7, 6, 0)");
-        scene.answers("digest()", mixed(3, 0, 1, 8, 6, 2 + 1 + 3 + 2 + 3, 0, 0, 2, 2, 0, 1, 3, 1, 1, 2, 1, 3, 1, 2, 0,
-                3, 1, 2, 0, 2, 4, 40, 3, 1, 2, 0, 2, 4, 0, 3, 0, 0, 4, 0, 0, -1, -1, -1, -1, -1, -1, 3, 32, 98, 32,
-                -1, -1, -1));
-        Scene full = Scene.with(2, A40.substring(1) + "b");
-        long[] values = new long[6 + 3 + 40 + 7 + 6 + 4];
-        java.util.Arrays.fill(values, -1);
-        long[] begun = {2, 0, 0, 1, 0, 40, 0, 0, 40};
-        System.arraycopy(begun, 0, values, 0, 9);
-        java.util.Arrays.fill(values, 9, 48, 0);
-        values[48] = 1;
-        full.answers("digest()", mixed(values));
+        Scene scene = Scene.with(3, "ca").text(0, " b ").does("tell(1, 0)", "join(2, 1, 0)", "turn(3, 0, 1)",
+                "drop(4, 2, 40)", "part(5, 4, 0, 0)", "turn(6, 5, 0)", "drop(7, 6, 0)");
+        digests(scene, "3 0 1 8 6 11 0 0 2 2 0 1 3 1 1 2 1 3 1 2 0 3 1 2 0 2 4 40 3 1 2 0 2 4 0 3 0 0 4 0 0"
+                + " 6x-1 3 32 98 32 3x-1");
+        digests(Scene.with(2, A40.substring(1) + "b"), "2 0 0 1 0 40 0 0 40 39x0 1 7x-1 6x-1 4x-1");
     }
 
     private static void digestRows() {
         Scene scene = Scene.bare().does("row(0, 0)", "row(1, 2)", "lay(1, 0, MIN)", "lay(1, 1, MAX)", "row(2, 1)",
                 "tear(2)", "row(5, 1)", "lay(5, 0, -1)");
-        scene.answers("digest()", mixed(3, 3, 0, 0, 0, 0, -1, -1, -1, -1, -1, -1, -1, -1, 0, 2, Integer.MIN_VALUE,
-                Integer.MAX_VALUE, -1, -1, -1, 1, -1, -1, -1, -1, -1));
+        digests(scene, "3 3 4x0 8x-1 0 2 -2147483648 2147483647 3x-1 1 -1 4x-1");
+        digests(Scene.bare().does("row(0, 40)"), "3 1 4x0 8x-1 40 40x0 5x-1 4x-1");
     }
 
     private static void digestTexts() {
-        Scene scene = Scene.bare().does("text(0, 0)", "text(1, 3)", "put(1, 0, 127)", "put(1, 1, 128)", "put(1, 2, 255)",
-                "text(3, 1)");
-        scene.answers("digest()", mixed(3, 0, 3, 0, 0, 0, -1, -1, -1, -1, -1, -1, -1, -1, -1, -1, -1, -1, -1, -1, 0, 3, 127,
-                -128, -1, -1, 1, 32));
+        Scene scene = Scene.bare().does("text(0, 0)", "text(1, 3)", "put(1, 0, 127)", "put(1, 1, 128)",
+                "put(1, 2, 255)", "text(3, 1)");
+        digests(scene, "3 0 3 3x0 8x-1 6x-1 0 3 127 -128 -1 -1 1 32");
+        digests(Scene.bare().does("text(0, 60)"), "3 0 1 3x0 8x-1 6x-1 60 60x32 3x-1");
     }
 }

@@ -15,12 +15,14 @@ final class WordEdges {
         Sentence.of(11, "BAD", WordEdges::wordBad);
         Sentence.of(11, "NOTHING", WordEdges::wordNothing);
         Sentence.of(11, "UNLIKE: one that is none.", WordEdges::wordUnlike);
-        Sentence.of(14, "A WORD (anew; MADE) of two (perhaps itself), one behind the other: its size.", WordEdges::join);
+        Sentence.of(14, "A WORD (anew; MADE) of two (perhaps itself), one behind the other: its size.",
+                WordEdges::join);
         Sentence.of(14, "BAD", WordEdges::joinBad);
         Sentence.of(14, "NOTHING: either", WordEdges::joinNothing);
         Sentence.of(14, "FULL.", WordEdges::joinFull);
         Sentence.of(14, "(FULL behind NOTHING.)", WordEdges::joinOrder);
-        Sentence.of(15, "A WORD (anew; MADE) of n LETTERS of one (perhaps itself) from place i on: n.", WordEdges::part);
+        Sentence.of(15, "A WORD (anew; MADE) of n LETTERS of one (perhaps itself) from place i on: n.",
+                WordEdges::part);
         Sentence.of(15, "BAD", WordEdges::partBad);
         Sentence.of(15, "SIZE: n below 0", WordEdges::partSize);
         Sentence.of(15, "NOTHING", WordEdges::partNothing);
