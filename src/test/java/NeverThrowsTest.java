@@ -6,7 +6,8 @@ import java.util.Random;
  */
 final class NeverThrowsTest {
     private static final int RUNS = 150;
-    private static final int CALLS = 512;
+    /** And digest() as the 512th. */
+    private static final int CALLS = 511;
     private static final String[] FAR = {"MIN", "-10", "-9", "-1", "8", "20", "21", "39", "40", "41", "60", "61", "MAX"};
 
     private final Random random;
