@@ -6,6 +6,8 @@ import java.lang.reflect.Modifier;
 import java.nio.charset.StandardCharsets;
 import java.nio.file.Files;
 import java.nio.file.Path;
+import java.util.ArrayList;
+import java.util.List;
 import java.util.Set;
 import java.util.TreeSet;
 import java.util.regex.Matcher;
@@ -28,6 +30,7 @@ final class FaceTest {
 
     public static void main(String[] args) throws IOException {
         methods();
+        faceOfDocument();
         constants();
         nested();
         source();
@@ -61,6 +64,28 @@ final class FaceTest {
         Check.due("one constructor", constructors.length, 1);
         Check.holds("it is public, of none", Modifier.isPublic(constructors[0].getModifiers())
                 && constructors[0].getParameterCount() == 0);
+    }
+
+    /** Each line of the document's face stands in the source, names and all, in the document's order. */
+    private static void faceOfDocument() throws IOException {
+        String document = Files.readString(Path.of("../shared/DOC.md"), StandardCharsets.UTF_8);
+        int begin = document.indexOf("```java\n", document.indexOf("## The public face"));
+        int end = document.indexOf("```", begin + 1);
+        Check.holds("the document has a face", begin >= 0 && end > begin);
+        List<String> due = publicLines(begin < 0 || end < begin ? "" : document.substring(begin, end));
+        String source = Files.readString(Path.of("src/main/java/WithinWords.java"), StandardCharsets.US_ASCII);
+        Check.due("the face of the document", String.join("\n", publicLines(source)), String.join("\n", due));
+        Check.due("its lines: the class, the constants, the constructor, the methods", due.size(), FACE.length + 3);
+    }
+
+    private static List<String> publicLines(String java) {
+        List<String> found = new ArrayList<>();
+        for (String line : java.split("\n")) {
+            if (line.strip().startsWith("public ")) {
+                found.add(line.strip().replaceAll(" ?[{;]$", ""));
+            }
+        }
+        return found;
     }
 
     private static void noNameTwice(Class<?> type, Set<String> names) {
